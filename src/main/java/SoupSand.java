@@ -1,5 +1,3 @@
-import java.util.Arrays;
-
 /**
  * Wet ground that loses its hold as the earth shakes. DOC.md tells every promise; words in capitals
  * there (COLUMN, LAYER, RUN, CHOICE ..) are the names of things here.
@@ -27,7 +25,6 @@ public final class SoupSand {
     private final Ground ground;
     private final Shakes shakes;
     private final Rules rules;
-    private final Kept kept;
     private final Words words;
     private final Houses houses;
     private final Tanks tanks;
@@ -41,8 +38,7 @@ public final class SoupSand {
         ground = trial.ground;
         shakes = trial.shakes;
         rules = trial.rules;
-        kept = new Kept();
-        words = kept.words;
+        words = new Words();
         houses = new Houses();
         tanks = new Tanks();
         works = new Works();
@@ -59,7 +55,7 @@ public final class SoupSand {
         int[] row = what == 0 ? ground.top : ground.water;
         int was = row[c];
         row[c] = v;
-        kept.forget();
+        words.forget();
         return was;
     }
 
@@ -67,7 +63,7 @@ public final class SoupSand {
         if (!ground.hasColumn(c)) return UNKNOWN;
         if (beyond(kind, 0, 3) || beyond(thick, 1, 60) || beyond(loose, 0, 100)) return OUTSIDE;
         if (ground.layers[c] >= LAYERS) return FULL;
-        kept.forget();
+        words.forget();
         return ground.addLayer(c, kind, thick, loose);
     }
 
@@ -76,7 +72,7 @@ public final class SoupSand {
         if (beyond(value, 0, 100) || beyond(weight, 1, 9)) return OUTSIDE;
         if (ground.hasValue(c, k, value)) return NOT;
         if (ground.values[c * LAYERS + k] >= VALUES) return FULL;
-        kept.forget();
+        words.forget();
         return ground.addValue(c, k, value, weight);
     }
 
@@ -103,7 +99,7 @@ public final class SoupSand {
         if (!shakes.hasShake(q)) return UNKNOWN;
         if (beyond(strength, 0, 999)) return OUTSIDE;
         if (shakes.beats[q] >= BEATS) return FULL;
-        kept.forget();
+        words.forget();
         return shakes.addBeat(q, strength);
     }
 
@@ -136,16 +132,16 @@ public final class SoupSand {
         if (what == 3 && (!ground.hasLayer(c, k) || beyond(j, 0, ground.values[c * LAYERS + k] - 1))) return UNKNOWN;
         if (beyond(what, 0, 3)) return OUTSIDE;
         if (what == 0) return ground.choicesOf(c);
-        kept.look(trial, c);
-        if (what == 2) return kept.firstKept(c);
-        return what == 1 ? kept.countKept(c) : keptWith(c, k, j);
+        words.look(trial, c);
+        if (what == 2) return words.firstKept(c);
+        return what == 1 ? words.countKept(c) : keptWith(c, k, j);
     }
 
     private int keptWith(int c, int k, int j) {
         int many = 0;
         trial.begin(c);
-        for (int i = 0; i < kept.choices[c]; i++) {
-            if (trial.chosen[k] == j && kept.keeps(c, trial.place())) many++;
+        for (int i = 0; i < words.choices[c]; i++) {
+            if (trial.chosen[k] == j && words.keep(c, trial.place())) many++;
             trial.advance();
         }
         return many;
@@ -169,12 +165,12 @@ public final class SoupSand {
 
     /** By each KEPT CHOICE the STEP in which a LAYER LETS GO; it is so, if there is one. */
     private void surveyLayer(int c, int q, int k) {
-        kept.look(trial, c);
+        words.look(trial, c);
         survey.begin(0);
         trial.begin(c);
         trial.under(q, 0, 0);
-        for (int i = 0; i < kept.choices[c]; i++) {
-            if (kept.keeps(c, trial.place())) {
+        for (int i = 0; i < words.choices[c]; i++) {
+            if (words.keep(c, trial.place())) {
                 trial.play();
                 survey.add(trial.gone[k], trial.weightNow());
             }
@@ -190,7 +186,7 @@ public final class SoupSand {
         if (kind == 2 ? !ground.hasLayer(c, a) : !shakes.hasShake(a)) return UNKNOWN;
         if (kind == 2 && (beyond(l, 0, 100) || beyond(u, l, 100))) return OUTSIDE;
         if (words.count >= WORDS) return FULL;
-        kept.forget();
+        words.forget();
         return words.addWord(c, kind, a, l, u);
     }
 
@@ -204,14 +200,14 @@ public final class SoupSand {
     public int bars(int i) {
         if (!words.hasWord(i)) return UNKNOWN;
         int c = words.column[i];
-        kept.look(trial, c);
-        return kept.countAgainst(c, i);
+        words.look(trial, c);
+        return words.countAgainst(c, i);
     }
 
     public int toStrike(int c) {
         if (!ground.hasColumn(c)) return UNKNOWN;
-        kept.look(trial, c);
-        return kept.fewestAgainst(c);
+        words.look(trial, c);
+        return words.fewestAgainst(c);
     }
 
     // ---- houses, tanks
@@ -261,12 +257,12 @@ public final class SoupSand {
     /** By each KEPT CHOICE the SINK of a HOUSE; it is so, if the HOUSE is SUNK. */
     private void surveyHouse(int h, int q) {
         int c = houses.column[h];
-        kept.look(trial, c);
+        words.look(trial, c);
         survey.begin(rules.mark());
         trial.begin(c);
         trial.under(q, 0, 0);
-        for (int i = 0; i < kept.choices[c]; i++) {
-            if (kept.keeps(c, trial.place())) {
+        for (int i = 0; i < words.choices[c]; i++) {
+            if (words.keep(c, trial.place())) {
                 trial.play();
                 survey.add(trial.sinkOf(houses.width[h]), trial.weightNow());
             }
@@ -364,8 +360,8 @@ public final class SoupSand {
     private boolean housesQuarrel() {
         for (int c = 0; c < COLUMNS; c++) {
             if (houses.widestOn(c) > 0) {
-                kept.look(trial, c);
-                if (kept.countKept(c) == 0) return true;
+                words.look(trial, c);
+                if (words.countKept(c) == 0) return true;
             }
         }
         return false;
@@ -391,8 +387,8 @@ public final class SoupSand {
         for (int q = 0; q < shakes.count; q++) {
             trial.begin(c);
             trial.under(q, works.sumOn(c, 0, set), works.sumOn(c, 1, set));
-            for (int i = 0; i < kept.choices[c]; i++) {
-                if (kept.keeps(c, trial.place())) {
+            for (int i = 0; i < words.choices[c]; i++) {
+                if (words.keep(c, trial.place())) {
                     trial.play();
                     if (trial.sinkOf(width) >= rules.mark()) return false;
                 }
@@ -415,7 +411,7 @@ public final class SoupSand {
         int clauses = reader.parse();
         if (reader.flaw != 0) return -10 - reader.flaw;
         rules.become(reader.draft);
-        kept.forget();
+        words.forget();
         return clauses;
     }
 
@@ -463,7 +459,7 @@ public final class SoupSand {
         final int[] weight = new int[COLUMNS * LAYERS * VALUES];
 
         Ground() {
-            Arrays.fill(top, 500);
+            for (int c = 0; c < COLUMNS; c++) top[c] = 500;
         }
 
         boolean hasColumn(int c) {
@@ -511,13 +507,15 @@ public final class SoupSand {
             return depthOf(c, k) >= water[c];
         }
 
-        private int unitWeight(int c, int k, Rules rules) {
-            return isWet(c, k) ? rules.wet() : rules.dry();
-        }
-
         int holdOf(int c, int k, Rules rules) {
-            int hold = thick[c * LAYERS + k] * unitWeight(c, k, rules) / 2;
-            for (int i = 0; i < k; i++) hold += thick[c * LAYERS + i] * unitWeight(c, i, rules);
+            int depth = 0;
+            int hold = 0;
+            for (int i = 0; i <= k; i++) {
+                int thickness = thick[c * LAYERS + i];
+                int weighs = thickness * rules.unitWeight(depth >= water[c]);
+                hold += i < k ? weighs : weighs / 2;
+                depth += thickness;
+            }
             return Math.max(1, hold);
         }
 
@@ -527,28 +525,28 @@ public final class SoupSand {
             return many;
         }
 
-        private int upperEnd(int c, int k) {
-            return top[c] - depthOf(c, k);
-        }
-
         int middleOf(int c, int k) {
-            return upperEnd(c, k) - thick[c * LAYERS + k] / 2;
+            return top[c] - depthOf(c, k) - thick[c * LAYERS + k] / 2;
         }
 
         /** The LAYER at a height; NONE. */
         int layerAt(int c, int z) {
+            int upper = top[c];
             for (int k = 0; k < layers[c]; k++) {
-                int upper = upperEnd(c, k);
-                if (upper >= z && upper - thick[c * LAYERS + k] < z) return k;
+                int lower = upper - thick[c * LAYERS + k];
+                if (upper >= z && lower < z) return k;
+                upper = lower;
             }
             return NONE;
         }
 
         int weightAbove(int c, int z, Rules rules) {
+            int depth = 0;
             int sum = 0;
             for (int k = 0; k < layers[c]; k++) {
-                int part = Math.min(thick[c * LAYERS + k], upperEnd(c, k) - z);
-                if (part > 0) sum += part * unitWeight(c, k, rules);
+                int part = Math.min(thick[c * LAYERS + k], top[c] - depth - z);
+                if (part > 0) sum += part * rules.unitWeight(depth >= water[c]);
+                depth += thick[c * LAYERS + k];
             }
             return sum;
         }
@@ -590,11 +588,11 @@ public final class SoupSand {
         final int[] slot = new int[SLOTS];
 
         Rules() {
-            fillFirst(slot);
+            for (int s = 0; s < SLOTS; s++) slot[s] = first(s);
         }
 
-        static void fillFirst(int[] row) {
-            for (int s = 0; s < SLOTS && s < row.length; s++) row[s] = FIRST[entry(s)];
+        static int first(int s) {
+            return FIRST[entry(s)];
         }
 
         static int lowest(int s) {
@@ -613,16 +611,13 @@ public final class SoupSand {
             System.arraycopy(row, 0, slot, 0, SLOTS);
         }
 
-        int of(int kind, int name) {
-            return slot[kind * NAMES + name];
-        }
-
         int dry() {
             return slot[DRY];
         }
 
-        int wet() {
-            return slot[WET];
+        /** What a LAYER weighs by its THICK. */
+        int unitWeight(boolean isWet) {
+            return isWet ? slot[WET] : slot[DRY];
         }
 
         int flow() {
@@ -670,7 +665,7 @@ public final class SoupSand {
             beats = 0;
             steps = 0;
             stale = layers - 1;
-            Arrays.fill(chosen, 0);
+            for (int k = 0; k < layers; k++) chosen[k] = 0;
         }
 
         /** Behind begin: the SHAKE, and what WORKS do. */
@@ -682,7 +677,7 @@ public final class SoupSand {
             stale = layers - 1;
             if (layers == 0) return;
             System.arraycopy(shakes.strength, q * BEATS, arriving, (layers - 1) * BEATS, beats);
-            Arrays.fill(rising, (layers - 1) * STEPS, layers * STEPS, 0);
+            for (int s = 0; s < steps; s++) rising[(layers - 1) * STEPS + s] = 0;
         }
 
         void runFirst(int c, int q) {
@@ -718,25 +713,18 @@ public final class SoupSand {
             return weight;
         }
 
+        /** Above a dry LAYER all are dry, so what a dry one would pass on changes nothing. */
         void play() {
             for (int k = stale; k >= 0; k--) {
+                push[k] = 0;
+                gone[k] = NONE;
                 if (ground.isWet(column, k)) playWet(k);
-                else playDry(k);
             }
             stale = NONE;
         }
 
         private int ruleOf(int k, int name) {
-            return rules.of(ground.kind[column * LAYERS + k], name);
-        }
-
-        private void playDry(int k) {
-            push[k] = 0;
-            gone[k] = NONE;
-            if (k == 0) return;
-            int pass = ruleOf(k, Rules.PASS);
-            for (int s = 0; s < beats; s++) arriving[(k - 1) * BEATS + s] = arriving[k * BEATS + s] * pass / 100;
-            Arrays.fill(rising, (k - 1) * STEPS, k * STEPS, 0);
+            return rules.slot[ground.kind[column * LAYERS + k] * Rules.NAMES + name];
         }
 
         private void playWet(int k) {
@@ -744,8 +732,6 @@ public final class SoupSand {
             int drain = Math.min(1000, ruleOf(k, Rules.DRAIN) + drainMore);
             int grow = ruleOf(k, Rules.GROW) * Math.max(0, valueAt(k) - looseLess);
             int divisor = 10 * ground.holdOf(column, k, rules);
-            push[k] = 0;
-            gone[k] = NONE;
             for (int s = 0; s < steps; s++) {
                 if (s < beats) {
                     int strength = arriving[k * BEATS + s];
@@ -803,15 +789,23 @@ public final class SoupSand {
         }
     }
 
+    /** The WORDS, and which CHOICES they keep. */
     private static final class Words {
         final int[] column = new int[WORDS];
-        final int[] kind = new int[WORDS];
-        final int[] about = new int[WORDS];
-        final int[] low = new int[WORDS];
-        final int[] high = new int[WORDS];
+        private final int[] kind = new int[WORDS];
+        /** A SHAKE, or a LAYER. */
+        private final int[] subject = new int[WORDS];
+        private final int[] low = new int[WORDS];
+        private final int[] high = new int[WORDS];
         int count;
         /** The SET of WORDS that are STRUCK. */
         int struck;
+        /** By COLUMN: how many CHOICES it has. */
+        final int[] choices = new int[COLUMNS];
+        /** By COLUMN and CHOICE: the SET of WORDS, STRUCK or not, that it is not as they say. */
+        private final int[] against = new int[COLUMNS * CHOICES];
+        /** The SET of COLUMNS for which the two rows above hold. */
+        private int looked;
 
         boolean hasWord(int i) {
             return i >= 0 && i < count;
@@ -820,62 +814,51 @@ public final class SoupSand {
         int addWord(int c, int itsKind, int a, int l, int u) {
             column[count] = c;
             kind[count] = itsKind;
-            about[count] = a;
+            subject[count] = a;
             low[count] = l;
             high[count] = u;
             count++;
             return count - 1;
         }
 
-        /** The SET of WORDS of a COLUMN, of a kind 0 or 1, about a SHAKE. */
-        int setOf(int c, int itsKind, int q) {
+        /** The SET of WORDS of a COLUMN, of a kind, about a SHAKE or a LAYER. */
+        private int setOf(int c, int itsKind, int a) {
             int set = 0;
             for (int i = 0; i < count; i++) {
-                if (column[i] == c && kind[i] == itsKind && about[i] == q) set |= 1 << i;
+                if (column[i] == c && kind[i] == itsKind && subject[i] == a) set |= 1 << i;
             }
             return set;
         }
-    }
-
-    /** Which CHOICES the WORDS keep. */
-    private static final class Kept {
-        final Words words = new Words();
-        /** By COLUMN: how many CHOICES it has. */
-        final int[] choices = new int[COLUMNS];
-        /** By COLUMN and CHOICE: the SET of WORDS, STRUCK or not, that it is not as they say. */
-        private final int[] against = new int[COLUMNS * CHOICES];
-        private final boolean[] looked = new boolean[COLUMNS];
 
         /** Something has changed by which RUNS or WORDS are other ones. */
         void forget() {
-            Arrays.fill(looked, false);
+            looked = 0;
         }
 
         /** Ahead of all that asks about a COLUMN: looks at its CHOICES, if that is still to do. */
         void look(Trial trial, int c) {
-            if (looked[c]) return;
+            if ((looked >> c & 1) == 1) return;
             choices[c] = trial.ground.choicesOf(c);
-            Arrays.fill(against, c * CHOICES, c * CHOICES + choices[c], 0);
-            for (int i = 0; i < words.count; i++) {
-                if (words.column[i] == c && words.kind[i] == 2) lookBySounding(trial, c, i);
+            for (int n = 0; n < choices[c]; n++) against[c * CHOICES + n] = 0;
+            for (int i = 0; i < count; i++) {
+                if (column[i] == c && kind[i] == 2) lookBySounding(trial, c, i);
             }
             for (int q = 0; q < trial.shakes.count; q++) {
-                int quiet = words.setOf(c, 0, q);
-                int boiled = words.setOf(c, 1, q);
+                int quiet = setOf(c, 0, q);
+                int boiled = setOf(c, 1, q);
                 if (quiet != 0 || boiled != 0) {
                     trial.begin(c);
                     trial.under(q, 0, 0);
                     lookByRuns(trial, c, quiet, boiled);
                 }
             }
-            looked[c] = true;
+            looked |= 1 << c;
         }
 
         private void lookBySounding(Trial trial, int c, int i) {
             trial.begin(c);
             for (int n = 0; n < choices[c]; n++) {
-                int value = trial.valueAt(words.about[i]);
-                if (beyond(value, words.low[i], words.high[i])) against[c * CHOICES + trial.place()] |= 1 << i;
+                if (beyond(trial.valueAt(subject[i]), low[i], high[i])) against[c * CHOICES + trial.place()] |= 1 << i;
                 trial.advance();
             }
         }
@@ -888,21 +871,21 @@ public final class SoupSand {
             }
         }
 
-        boolean keeps(int c, int place) {
-            return (against[c * CHOICES + place] & ~words.struck) == 0;
+        boolean keep(int c, int place) {
+            return (against[c * CHOICES + place] & ~struck) == 0;
         }
 
         int countKept(int c) {
             int many = 0;
             for (int n = 0; n < choices[c]; n++) {
-                if (keeps(c, n)) many++;
+                if (keep(c, n)) many++;
             }
             return many;
         }
 
         int firstKept(int c) {
             for (int n = 0; n < choices[c]; n++) {
-                if (keeps(c, n)) return n;
+                if (keep(c, n)) return n;
             }
             return NONE;
         }
@@ -915,9 +898,9 @@ public final class SoupSand {
 
         /** Of the SETS that some CHOICE wants struck: the one of the fewest WORDS, then the least. */
         int fewestAgainst(int c) {
-            int best = against[c * CHOICES] & ~words.struck;
+            int best = against[c * CHOICES] & ~struck;
             for (int n = 1; n < choices[c]; n++) {
-                int set = against[c * CHOICES + n] & ~words.struck;
+                int set = against[c * CHOICES + n] & ~struck;
                 int fewer = Integer.bitCount(best) - Integer.bitCount(set);
                 if (fewer > 0 || fewer == 0 && set < best) best = set;
             }
@@ -993,7 +976,7 @@ public final class SoupSand {
         }
 
         void forgetVerdicts() {
-            Arrays.fill(verdict, 0);
+            for (int i = 0; i < verdict.length; i++) verdict[i] = 0;
         }
 
         private static boolean holds(int set, int w) {
@@ -1140,7 +1123,7 @@ public final class SoupSand {
             clauses = 0;
             flaw = 0;
             flawAt = NONE;
-            Rules.fillFirst(draft);
+            for (int s = 0; s < Rules.SLOTS; s++) draft[s] = Rules.first(s);
             skipBlanks();
             for (int i = 0; i < BYTES && at < length && flaw == 0; i++) {
                 takeClause();

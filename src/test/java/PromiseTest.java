@@ -60,6 +60,7 @@ public final class PromiseTest {
         least();
         work();
         stands();
+        standsAtTheEdges();
         plan();
         loss();
         feed();
@@ -323,6 +324,25 @@ public final class PromiseTest {
         y.beat(0, 999);
         due("nothing comes to one that has let go", y.run(0, 0, 0, 0), 1000);
         due("half is cut behind the whole", y.run(0, 0, 1, 0), 700);
+        SoupSand z = new SoupSand();
+        // the lowest lets go in the last beat, and its push needs all steps to come up
+        readText(z, "after 30;kind 0 grow 0 drain 0;kind 1 grow 99 drain 10;mark 1;");
+        for (int k = 0; k < 5; k++) z.layer(0, 0, 1, 100);
+        z.layer(0, 1, 1, 100);
+        z.shake(0);
+        beats(z, 0, 29, 0);
+        z.beat(0, 999);
+        due("all steps, below", z.run(0, 0, 5, 1), 29);
+        int below = 1000;
+        int above = 0;
+        for (int i = 0; i < 31; i++) {
+            int lost = below * 10 / 1000;
+            below -= lost;
+            above += lost / 2;
+        }
+        due("all steps, below, push", z.run(0, 0, 5, 0), below);
+        due("all steps, above, push", z.run(0, 0, 4, 0), above);
+        due("all steps, far above", z.run(0, 0, 0, 0), 0);
     }
 
     // Promise 10
@@ -925,6 +945,56 @@ public final class PromiseTest {
         due("stands: in any shake", z.stands(0), 0);
     }
 
+    private static void standsAtTheEdges() {
+        SoupSand x = new SoupSand();
+        // 999 * 90 * 5 / 450 = 999 each beat: lets go, if even 1 stays
+        readText(x, "kind 0 grow 5 drain 499 settle 99;");
+        x.layer(0, 0, 10, 90);
+        x.shake(0);
+        beats(x, 0, 2, 999);
+        x.house(0, 5, 1);
+        x.work(0, 0, 500, 1);
+        x.work(0, 0, 1, 1);
+        x.work(0, 0, 500, 1);
+        due("stands: drain 499", x.stands(0), 0);
+        due("stands: drain 999", x.stands(1), 0);
+        due("stands: drain 1000", x.stands(3), 1);
+        due("stands: drain beyond 1000", x.stands(7), 1);
+        SoupSand y = new SoupSand();
+        // below 998 at most each beat, of which half comes up: no more than 1000 drain, so 500 at most
+        readText(y, "kind 0 grow 0 drain 0 settle 99;kind 1 grow 99 drain 0 settle 0;");
+        y.layer(0, 0, 10, 0);
+        y.layer(0, 1, 10, 100);
+        y.shake(0);
+        y.beat(0, 999);
+        y.house(0, 5, 1);
+        for (int w = 0; w < 6; w++) y.work(0, 0, 500, 1);
+        due("stands: drain is 1000 at most", y.stands(63), 1);
+        SoupSand z = new SoupSand();
+        // below 999 * 99 * 13 / 1350 = 952 of which 951 drain: 475 come up each beat
+        readText(z, "kind 0 grow 99 drain 0 settle 99;kind 1 grow 13 drain 999 settle 0;");
+        z.layer(0, 0, 10, 0);
+        z.layer(0, 1, 10, 100);
+        z.shake(0);
+        beats(z, 0, 2, 999);
+        z.house(0, 5, 1);
+        z.work(0, 1, 1, 1);
+        due("stands: twice 475", z.stands(1), 1);
+        z.beat(0, 999);
+        due("stands: thrice 475, LOOSE is 0 at least", z.stands(1), 0);
+        SoupSand v = new SoupSand();
+        // nothing stands in the last column, with whatever set of six works there
+        readText(v, "kind 0 settle 99;");
+        v.layer(5, 0, 10, 100);
+        v.house(5, 5, 1);
+        v.shake(0);
+        beats(v, 0, 2, 999);
+        for (int w = 0; w < 6; w++) v.work(5, w % 2, 1, 1);
+        due("plan: no set of 64", v.plan(0), NONE);
+        due("stands: all of six", v.stands(63), 0);
+        due("stands: a seventh", v.stands(64), UNKNOWN);
+    }
+
     // Promise 28
     private static void plan() {
         SoupSand x = sinking();
@@ -1072,6 +1142,13 @@ public final class PromiseTest {
         flaw("dry 5 wet 6;", 1, 6);
         flaw("dry wet 5;", 1, 4);
         flaw("drywet 5;", 1, 0);
+        flaw("dryz 5;", 1, 0);
+        flaw("drya 5;", 1, 0);
+        flaw("dry{5;", 1, 3);
+        flaw("dry`5;", 1, 3);
+        flaw("dry 5:", 1, 5);
+        flaw("dry 5/", 1, 5);
+        flaw("dry 9;wet 0 9;", 2, 10);
         flaw("d ry 5;", 1, 0);
         flaw("dr", 1, 0);
         flaw("dry 5;wett 6;", 1, 6);
