@@ -645,12 +645,15 @@ public final class SoupSand {
         final int[] chosen = new int[LAYERS];
         final int[] push = new int[LAYERS];
         final int[] gone = new int[LAYERS];
+        private final int[] hold = new int[LAYERS];
         /** By LAYER and BEAT: the strength that comes to it from below. */
         private final int[] arriving = new int[LAYERS * BEATS];
         /** By LAYER and STEP: the PUSH that drains to it from below. */
         private final int[] rising = new int[LAYERS * STEPS];
         private int column;
         private int layers;
+        /** The topmost WET LAYER; all below it are WET too. */
+        private int firstWet;
         private int beats;
         private int steps;
         private int drainMore;
@@ -676,6 +679,11 @@ public final class SoupSand {
             looseLess = lessLoose;
             stale = layers - 1;
             if (layers == 0) return;
+            firstWet = 0;
+            for (int k = 0; k < layers; k++) {
+                hold[k] = ground.holdOf(column, k, rules);
+                if (!ground.isWet(column, k)) firstWet = k + 1;
+            }
             System.arraycopy(shakes.strength, q * BEATS, arriving, (layers - 1) * BEATS, beats);
             for (int s = 0; s < steps; s++) rising[(layers - 1) * STEPS + s] = 0;
         }
@@ -713,12 +721,12 @@ public final class SoupSand {
             return weight;
         }
 
-        /** Above a dry LAYER all are dry, so what a dry one would pass on changes nothing. */
+        /** What a dry LAYER would pass on comes to dry ones alone and changes nothing. */
         void play() {
             for (int k = stale; k >= 0; k--) {
                 push[k] = 0;
                 gone[k] = NONE;
-                if (ground.isWet(column, k)) playWet(k);
+                if (k >= firstWet) playWet(k);
             }
             stale = NONE;
         }
@@ -731,7 +739,7 @@ public final class SoupSand {
             int pass = ruleOf(k, Rules.PASS);
             int drain = Math.min(1000, ruleOf(k, Rules.DRAIN) + drainMore);
             int grow = ruleOf(k, Rules.GROW) * Math.max(0, valueAt(k) - looseLess);
-            int divisor = 10 * ground.holdOf(column, k, rules);
+            int divisor = 10 * hold[k];
             for (int s = 0; s < steps; s++) {
                 if (s < beats) {
                     int strength = arriving[k * BEATS + s];
@@ -785,7 +793,7 @@ public final class SoupSand {
         /** By how much a LAYER holds against a SLIP. */
         int gripOf(int k) {
             if (gone[k] != NONE) return 0;
-            return ground.holdOf(column, k, rules) * (1000 - push[k]) / 1000 * ruleOf(k, Rules.HOLD) / 100;
+            return hold[k] * (1000 - push[k]) / 1000 * ruleOf(k, Rules.HOLD) / 100;
         }
     }
 

@@ -556,6 +556,8 @@ public final class PromiseTest {
         due("bars of a quiet", x.bars(2), 2);
         due("bars of a boiled", x.bars(3), 4);
         due("bars all", x.bars(4), 6);
+        x.strike(4, true);
+        due("bars of one that is struck", x.bars(4), 6);
         due("bars 5", x.bars(5), UNKNOWN);
         due("bars -1", x.bars(-1), UNKNOWN);
     }
@@ -1165,6 +1167,14 @@ public final class PromiseTest {
         flaw("kind 0 grow;", 1, 11);
         flaw("kind 0 grow 1 drain 2 pass 3 settle 4 hold 5", 1, 44);
         flaw("kind 0 grow 1 drain 2 pass 3 settle 4 hold 5 x 6;", 1, 45);
+        flaw("dry" + " ".repeat(197), 1, 200);
+        flaw("dry 5" + " ".repeat(195), 1, 200);
+        flaw(" ".repeat(195) + "dry 5", 1, 200);
+        flaw(" ".repeat(197) + "wet", 1, 200);
+        flaw(" ".repeat(199) + "w", 1, 199);
+        flaw("kind 0 grow 5" + " ".repeat(187), 1, 200);
+        flaw("z".repeat(200), 1, 0);
+        flaw("dry " + "1".repeat(196), 2, 4);
         flaw("dry 1000;", 2, 4);
         flaw("dry 0005;", 2, 4);
         flaw("dry 99999999999999999999;", 2, 4);
